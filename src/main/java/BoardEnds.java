@@ -661,13 +661,14 @@ public final class BoardEnds {
     /** The symmetries of the blocked places that were prepared last. */
     private static final class Folding {
         private final Grid grid;
-        private final boolean[] keeps;
+        // The turns that keep the blocked places, without turn 0, which changes nothing.
+        private final int[] kept;
+        private int keptCount;
         private int prepared;
-        private int symmetries;
 
         Folding(Grid grid) {
             this.grid = grid;
-            keeps = new boolean[Grid.TURNS];
+            kept = new int[Grid.TURNS];
             prepared = -1;
         }
 
@@ -676,11 +677,11 @@ public final class BoardEnds {
                 return;
             }
             prepared = blocked;
-            symmetries = 0;
-            for (int turn = 0; turn < Grid.TURNS; turn++) {
-                keeps[turn] = imageOf(turn, blocked) == blocked;
-                if (keeps[turn]) {
-                    symmetries++;
+            keptCount = 0;
+            for (int turn = 1; turn < Grid.TURNS; turn++) {
+                if (imageOf(turn, blocked) == blocked) {
+                    kept[keptCount & 7] = turn;
+                    keptCount++;
                 }
             }
         }
@@ -696,7 +697,7 @@ public final class BoardEnds {
         }
 
         int symmetries() {
-            return symmetries;
+            return keptCount + 1;
         }
 
         private int imageOfNumber(int turn, int number) {
@@ -709,17 +710,15 @@ public final class BoardEnds {
 
         int lowestAlike(int number) {
             int lowest = number;
-            for (int turn = 0; turn < Grid.TURNS; turn++) {
-                if (keeps[turn]) {
-                    lowest = Math.min(lowest, imageOfNumber(turn, number));
-                }
+            for (int i = 0; i < keptCount && i < kept.length; i++) {
+                lowest = Math.min(lowest, imageOfNumber(kept[i], number));
             }
             return lowest;
         }
 
         boolean standsForItself(int number) {
-            for (int turn = 0; turn < Grid.TURNS; turn++) {
-                if (keeps[turn] && imageOfNumber(turn, number) < number) {
+            for (int i = 0; i < keptCount && i < kept.length; i++) {
+                if (imageOfNumber(kept[i], number) < number) {
                     return false;
                 }
             }
@@ -728,13 +727,13 @@ public final class BoardEnds {
 
         /** How many positions are alike: each of them is the image by equally many symmetries. */
         int alike(int number) {
-            int unmoved = 0;
-            for (int turn = 0; turn < Grid.TURNS; turn++) {
-                if (keeps[turn] && imageOfNumber(turn, number) == number) {
+            int unmoved = 1;
+            for (int i = 0; i < keptCount && i < kept.length; i++) {
+                if (imageOfNumber(kept[i], number) == number) {
                     unmoved++;
                 }
             }
-            return unmoved > 0 ? symmetries / unmoved : 1;
+            return unmoved > 0 ? symmetries() / unmoved : 1;
         }
     }
 
@@ -754,14 +753,17 @@ public final class BoardEnds {
         private static final int LONGEST_RUN = 9;
         private static final int USED_KEYS = 10;
 
+        // No board has a distance above 28 (all of them were gone through). The last column is for none.
+        private static final int COLUMNS = 64;
+        private static final int LAST = COLUMNS - 1;
+
         private final Grid grid;
         private final Ends ends;
         private final Folding folding;
         private final int[] totals;
         private final int[] standing;
+        private final int[] counts;
         private final int[] told;
-        private final int[] most;
-        private final int[] counted;
         private int prepared;
 
         Survey(Grid grid, Ends ends, Folding folding) {
@@ -770,9 +772,8 @@ public final class BoardEnds {
             this.folding = folding;
             totals = new int[TOTALS];
             standing = new int[Grid.NUMBERS];
+            counts = new int[Grid.KEYS * COLUMNS];
             told = new int[Grid.KEYS];
-            most = new int[Grid.KEYS];
-            counted = new int[Grid.KEYS];
             prepared = -1;
         }
 
@@ -786,99 +787,89 @@ public final class BoardEnds {
         }
 
         int countWith(int distance) {
+            int column = distance == NONE ? LAST : distance;
             int count = 0;
-            for (int i = 0; i < standingCount(); i++) {
-                if (ends.at(standing[i]) == distance) {
-                    count++;
-                }
+            for (int key = 0; key < Grid.KEYS && column >= 0 && column < COLUMNS; key++) {
+                count += distanceOf(column) == distance ? counts[key * COLUMNS + column] : 0;
             }
             return count;
         }
 
-        private int standingCount() {
-            return Math.min(totals[STANDING], standing.length);
+        private static int distanceOf(int column) {
+            return column == LAST ? NONE : column;
         }
 
         void prepare(State state) {
-            // The distances may have been worked out for another board since the last survey.
-            ends.prepare(state);
             if (prepared == Ends.signOf(state)) {
                 return;
             }
             prepared = Ends.signOf(state);
+            ends.prepare(state);
             folding.prepare(state.blocked);
             Arrays.fill(totals, 0);
+            Arrays.fill(counts, 0);
             totals[SYMMETRIES] = folding.symmetries();
-            collect(state.blocked);
+            goThrough(state.blocked);
             makeRule();
-            countUsedKeys();
             countExceptions();
             totals[ENDLESS] = countWith(NONE);
         }
 
-        private void collect(int blocked) {
-            int greatest = NONE;
-            int first = NONE;
+        private void goThrough(int blocked) {
+            totals[GREATEST] = NONE;
+            totals[FIRST_GREATEST] = NONE;
             for (int number = 0; number < Grid.NUMBERS; number++) {
                 if (grid.isPosition(number, blocked)) {
                     totals[POSITIONS]++;
-                    if (ends.at(number) > greatest) {
-                        greatest = ends.at(number);
-                        first = number;
+                    if (ends.at(number) > totals[GREATEST]) {
+                        totals[GREATEST] = ends.at(number);
+                        totals[FIRST_GREATEST] = number;
                     }
                     if (folding.standsForItself(number)) {
-                        standing[standingCount() & (Grid.NUMBERS - 1)] = number;
-                        totals[STANDING]++;
+                        collect(number);
                     }
                 }
             }
-            totals[GREATEST] = greatest;
-            totals[FIRST_GREATEST] = first;
         }
 
-        /** Goes from the least distance to none, so that of several the first one with the most stays. */
+        private void collect(int number) {
+            int distance = ends.at(number);
+            int column = distance == NONE ? LAST : distance;
+            int index = grid.keyOf(number) * COLUMNS + column;
+            if (index >= 0 && index < counts.length && totals[STANDING] < standing.length) {
+                counts[index]++;
+                standing[totals[STANDING]] = number;
+                totals[STANDING]++;
+            }
+        }
+
         private void makeRule() {
-            Arrays.fill(told, NO_SUCH);
-            Arrays.fill(most, 0);
-            for (int distance = 0; distance <= totals[GREATEST]; distance++) {
-                compareCounts(distance);
-            }
-            compareCounts(NONE);
-        }
-
-        private void compareCounts(int distance) {
-            Arrays.fill(counted, 0);
-            for (int i = 0; i < standingCount(); i++) {
-                if (ends.at(standing[i]) == distance) {
-                    countKey(grid.keyOf(standing[i]));
-                }
-            }
             for (int key = 0; key < Grid.KEYS; key++) {
-                if (counted[key] > most[key]) {
-                    most[key] = counted[key];
-                    told[key] = distance;
-                }
-            }
-        }
-
-        private void countKey(int key) {
-            if (key >= 0 && key < Grid.KEYS) {
-                counted[key]++;
-            }
-        }
-
-        private void countUsedKeys() {
-            for (int key = 0; key < Grid.KEYS; key++) {
+                told[key] = commonest(key);
                 if (told[key] != NO_SUCH) {
                     totals[USED_KEYS]++;
                 }
             }
         }
 
+        /** Goes from the least distance to none, so that of several that are as common the first one is told. */
+        private int commonest(int key) {
+            int most = 0;
+            int commonest = NO_SUCH;
+            for (int column = 0; column < COLUMNS; column++) {
+                int count = counts[key * COLUMNS + column];
+                if (count > most) {
+                    most = count;
+                    commonest = distanceOf(column);
+                }
+            }
+            return commonest;
+        }
+
         private void countExceptions() {
             int run = 0;
             int lastBlock = -1;
-            for (int i = 0; i < standingCount(); i++) {
+            for (int i = 0; i < totals[STANDING] && i < standing.length; i++) {
                 int number = standing[i];
                 if (ends.at(number) == told(grid.keyOf(number))) {
                     run = 0;
