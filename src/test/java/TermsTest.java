@@ -77,6 +77,26 @@ final class TermsTest extends Cases {
         due(x.of(x.number(1, 0, 1, 4), 5), x.rule(49 + 7 + 1));
     }
 
+    void whatIsToldOfOneBoardIsNotToldOfAnother() {
+        for (int place : new int[] {0, 1, 2, 3, 12, 13, 14, 15}) {
+            for (int setting = 0; setting < 3; setting++) {
+                BoardEnds asked = new BoardEnds();
+                asked.setUp(0, 5, 6, 9);
+                asked.block(place);
+                asked.all(3);
+                asked.block(place);
+                asked.set(setting, 1);
+                BoardEnds fresh = new BoardEnds();
+                fresh.setUp(0, 5, 6, 9);
+                fresh.set(setting, 1);
+                for (int what = 0; what < 11; what++) {
+                    due(asked.all(what), fresh.all(what));
+                }
+                due(asked.distance(0, 5, 0, 15), fresh.distance(0, 5, 0, 15));
+            }
+        }
+    }
+
     void the512thCallIsAnswered() {
         for (int call = 1; call < CALLS; call++) {
             x.set(call % 3, call / 3 % 2);
