@@ -177,6 +177,13 @@ final class Promise06PlayTest extends Cases {
         due(x.now(5), 2);
     }
 
+    void toStayIsToldWithThePlaceOfTheLowerHunter() {
+        board("..../H#F./...H/....h", FOX, PASS);
+        due(x.now(5), 7);
+        plays(4, 4, 0);
+        due(x.now(5), 6);
+    }
+
     void theFoxTakesTheGreatestDistance() {
         x.setUp(1, 0, 2, 3);
         due(x.distance(0, 1, 2, 3), 1);

@@ -157,6 +157,17 @@ final class Promise07ReadPadTest extends Cases {
         reads("F.#./##../..../..HHf", NONE);
     }
 
+    void nothingOfALongerTextBeforeCounts() {
+        put("FH../..../H.../....fFHHH");
+        due(x.readPad(), BAD_TEXT);
+        due(x.wipe(), 24);
+        due(read("FH../..../H.../....f"), 2);
+        x.wipe();
+        put("FH../..../H.../....f####");
+        due(x.wipe(), 24);
+        due(read("####/##../..H./..FHh"), 1);
+    }
+
     void thePadIsEmptyThen() {
         read("FH../..../H.../....f");
         due(x.now(14), 0);

@@ -95,6 +95,15 @@ final class Promise08NowTest extends Cases {
         due(x.now(4), 1);
     }
 
+    void what4Is1InEachCornerBetweenTheHunters() {
+        int[][] corners = {{0, 1, 4}, {3, 2, 7}, {12, 8, 13}, {15, 11, 14}};
+        for (int[] corner : corners) {
+            x.setUp(1, corner[0], corner[1], corner[2]);
+            due(x.now(4), 1);
+            due(x.now(5), 0);
+        }
+    }
+
     void what4Is0WhenItHasNoMoveButTheHuntersMove() {
         x.setUp(0, 0, 1, 4);
         due(x.now(4), 0);

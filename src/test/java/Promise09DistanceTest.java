@@ -18,6 +18,14 @@ final class Promise09DistanceTest extends PlacesCases {
         due(x.distance(1, 0, 1, 8), 2);
     }
 
+    void itIs0InEachCorner() {
+        due(x.distance(1, 0, 1, 4), 0);
+        due(x.distance(1, 3, 2, 7), 0);
+        due(x.distance(1, 12, 8, 13), 0);
+        due(x.distance(1, 15, 11, 14), 0);
+        due(x.withDistance(0), 1);
+    }
+
     void itIs0BehindBlockedPlaces() {
         x.block(1);
         x.block(4);
@@ -96,6 +104,16 @@ final class Promise09DistanceTest extends PlacesCases {
         due(x.distance(0, 15, 0, 10), NONE);
         x.set(PASS, 1);
         due(x.distance(0, 15, 0, 10), 3);
+    }
+
+    void itIs3BehindBlockedPlacesWithAllSettings() {
+        x.set(FOX, 1);
+        x.set(HUNT, 1);
+        x.set(PASS, 1);
+        for (int place : new int[] {1, 2, 7, 10}) {
+            x.block(place);
+        }
+        due(x.distance(0, 0, 8, 11), 3);
     }
 
     void acrossCornersTheFoxHasAMoveIfFoxIs1() {

@@ -76,6 +76,20 @@ final class Promise11FoldedTest extends PlacesCases {
         due(x.folded(0, 0, 5, 6), x.number(0, 0, 5, 6));
     }
 
+    void symmetriesThatTheBoardHadBeforeDoNotCount() {
+        due(x.folded(1, 14, 13, 15), x.number(1, 1, 0, 2));
+        x.block(1);
+        due(x.folded(1, 14, 13, 15), x.number(1, 14, 13, 15));
+        x.block(1);
+        due(x.folded(1, 14, 13, 15), x.number(1, 1, 0, 2));
+        x.block(2);
+        x.block(13);
+        due(x.all(2), 2);
+        due(x.folded(1, 14, 11, 15), x.number(1, 1, 0, 4));
+        due(x.folded(1, 11, 10, 14), x.number(1, 4, 1, 5));
+        due(x.folded(1, 7, 3, 6), x.number(1, 7, 3, 6));
+    }
+
     void onTheMirrorAPositionStandsForItself() {
         due(x.folded(1, 0, 1, 4), 2048 + 17);
         due(x.folded(1, 15, 11, 14), 2048 + 17);
