@@ -640,10 +640,15 @@ public final class BoardEnds {
             int reached = steps;
             for (int to = 0; to < Grid.PLACES; to++) {
                 if ((steps >> to & 1) != 0) {
-                    reached |= foxKnown[grid.pairOf(to, other)];
+                    reached |= knownWith(grid.pairOf(to, other));
                 }
             }
             return reached;
+        }
+
+        /** The places of the fox that are known by now if it moves, and the hunters are at this pair of places. */
+        private int knownWith(int pair) {
+            return pair >= 0 && pair < Grid.PAIRS ? foxKnown[pair] : 0;
         }
 
         private void keep(int foxes, int who, int pair, int level) {
@@ -1029,8 +1034,10 @@ public final class BoardEnds {
             if (length >= ROOM) {
                 dropOldest();
             }
-            states[length].take(state);
-            length++;
+            if (length >= 0) {
+                states[length].take(state);
+                length++;
+            }
         }
 
         private void dropOldest() {
@@ -1043,7 +1050,7 @@ public final class BoardEnds {
         }
 
         void takeBack(State state) {
-            if (length > 0) {
+            if (length > 0 && length <= ROOM) {
                 length--;
                 state.take(states[length]);
             }
@@ -1087,14 +1094,14 @@ public final class BoardEnds {
         }
 
         void append(long characters, int count) {
-            for (int i = count - 1; i >= 0 && length < ROOM; i--) {
+            for (int i = count - 1; i >= 0 && length >= 0 && length < ROOM; i--) {
                 signs[length] = (char) (characters >>> 8 * i & 255);
                 length++;
             }
         }
 
         int firstFault() {
-            for (int i = 0; i < length; i++) {
+            for (int i = 0; i < length && i < ROOM; i++) {
                 if (!canStand(signs[i], i)) {
                     return i;
                 }

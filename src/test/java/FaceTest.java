@@ -109,7 +109,22 @@ final class FaceTest {
                 String close = code.replaceAll("\\S.*", "") + "}";
                 int length = lines.subList(i, lines.size()).indexOf(close) + 1;
                 checks.holds("line " + (i + 1) + " begins no more than sixty lines", length > 0 && length <= 60);
+                if (!code.matches("\\s+(if|for|while|switch) .*")) {
+                    indexes("line " + (i + 1), String.join("\n", lines.subList(i, i + length)));
+                }
             }
+        }
+    }
+
+    /** A method looks at an index itself, if it is a length that is kept, or what another method answers. */
+    private void indexes(String where, String method) {
+        checks.holds(where + ": no index is another method's answer", !method.matches("(?s).*\\w\\[[^\\]]*\\w\\(.*"));
+        if (method.contains("[length]")) {
+            checks.holds(where + ": length is not below 0", method.matches("(?s).*length >=? 0.*"));
+            checks.holds(where + ": length is not above ROOM", method.matches("(?s).*length (<|<=|>=) ROOM.*"));
+        }
+        if (method.contains("i < length ") || method.contains("i < length;")) {
+            checks.holds(where + ": i is not above ROOM", method.contains("i < ROOM"));
         }
     }
 }
